@@ -144,6 +144,7 @@ public final class EachBearsPillar {
             return refuse(NOBODY);
         }
         mind.asTold();
+        int top = mind.topOf(bearer, bearer);
         switch (what) {
             case 0:
                 return cell(now.kind, bearer);
@@ -154,13 +155,13 @@ public final class EachBearsPillar {
             case 3:
                 return cell(now.block, bearer);
             case 4:
-                return mind.topOf(bearer, bearer);
+                return top;
             case 5:
-                return mind.canBear(bearer, bearer) ? 1 : 0;
+                return mind.canBear(bearer, top) ? 1 : 0;
             case 6:
-                return mind.canBear(bearer, bearer) && mind.stoops(bearer, bearer) ? 1 : 0;
+                return mind.canBear(bearer, top) && top > now.level ? 1 : 0;
             case 7:
-                return mind.mightOf(bearer, bearer);
+                return mind.mightOf(bearer, top);
             default:
                 return refuse(OTHER);
         }
@@ -776,17 +777,13 @@ public final class EachBearsPillar {
                 + cell(roof.block, bearer) + cell(raised, bearer);
         }
 
-        private boolean canBear(int bearer, int pillar) {
-            return cell(roof.kind, bearer) != SICK && topOf(bearer, pillar) >= level;
+        private boolean canBear(int bearer, int top) {
+            return cell(roof.kind, bearer) != SICK && top >= level;
         }
 
-        private boolean stoops(int bearer, int pillar) {
-            return topOf(bearer, pillar) > level;
-        }
-
-        private int mightOf(int bearer, int pillar) {
+        private int mightOf(int bearer, int top) {
             int strength = cell(roof.strength, bearer);
-            int plain = stoops(bearer, pillar) ? strength / 2 : strength;
+            int plain = top > level ? strength / 2 : strength;
             switch (cell(roof.kind, bearer)) {
                 case CHILD:
                     return plain / 2;
@@ -804,9 +801,10 @@ public final class EachBearsPillar {
         private void stand() {
             for (int pillar = 0; pillar < roof.bearers; pillar++) {
                 int bearer = cell(who, pillar);
-                boolean bears = canBear(bearer, pillar) && (idle >> pillar & 1) == 0;
+                int top = topOf(bearer, pillar);
+                boolean bears = canBear(bearer, top) && (idle >> pillar & 1) == 0;
                 setCell(bearing, pillar, bears ? 1 : 0);
-                setCell(might, pillar, mightOf(bearer, pillar));
+                setCell(might, pillar, mightOf(bearer, top));
             }
         }
 
@@ -853,7 +851,8 @@ public final class EachBearsPillar {
         }
 
         private boolean isFirm() {
-            standAndWeigh();
+            stand();
+            weigh();
             return isBorne();
         }
     }
@@ -965,8 +964,8 @@ public final class EachBearsPillar {
             int bearers = mind.roof.bearers;
             for (int bearer = 0; bearer < bearers; bearer++) {
                 for (int pillar = 0; pillar < bearers; pillar++) {
-                    boolean bears = mind.canBear(bearer, pillar);
-                    int load = bears ? 2 * mind.mightOf(bearer, pillar) : -1;
+                    int top = mind.topOf(bearer, pillar);
+                    int load = mind.canBear(bearer, top) ? 2 * mind.mightOf(bearer, top) : -1;
                     setCell(most, bearer * MOST_BEARERS + pillar, load);
                 }
             }

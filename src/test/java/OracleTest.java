@@ -185,7 +185,7 @@ public final class OracleTest {
       case 6: due("blocks()", real.blocks(), oracle.blocks()); break;
       case 7: due("swap()", real.swap(), oracle.swap()); break;
       case 8:
-        if (random.nextInt(6) > 0) break;
+        if (random.nextInt(2) > 0) break;
         a = near(7) - 1;
         due("orders(" + a + ")", real.orders(a), oracle.orders(a));
         break;
